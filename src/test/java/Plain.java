@@ -504,7 +504,7 @@ final class Plain {
         return sum;
     }
 
-    // ---- sheets: true arrays, and what the machine throws of them
+    // ---- sheets: true arrays
 
     private int finding(int number) {
         latest = number;
@@ -519,7 +519,9 @@ final class Plain {
         return java.lang.reflect.Array.getInt(sheets[s], i);
     }
 
-    private static final Class<?>[] FORMS = {byte[].class, short[].class, int[].class};
+    private int form(int s) {
+        return sheets[s] instanceof byte[] ? 0 : sheets[s] instanceof short[] ? 1 : 2;
+    }
 
     int sheet(int s, int form, int n) {
         if (s < 0 || s > 3 || form < 0 || form > 2 || n > 48) return BAD;
@@ -538,7 +540,7 @@ final class Plain {
 
     private int itemFinding(int s, int form, int i) {
         if (sheets[s] == null) return 1;
-        if (!FORMS[form].isInstance(sheets[s])) return 3;
+        if (form(s) != form) return 3;
         return i < 0 || i >= length(s) ? 2 : 0;
     }
 
@@ -565,13 +567,11 @@ final class Plain {
     int copy(int s, int i, int t, int j, int n) {
         if (s < 0 || s > 3 || t < 0 || t > 3) return BAD;
         if (sheets[s] == null || sheets[t] == null) return finding(1);
-        try {
-            System.arraycopy(sheets[s], i, sheets[t], j, n);
-        } catch (ArrayStoreException e) {
-            return finding(4);
-        } catch (IndexOutOfBoundsException e) {
-            return finding(2);
-        }
+        if (sheets[s].getClass() != sheets[t].getClass()) return finding(4);
+        if (i < 0 || j < 0 || n < 0 || (long) i + n > length(s) || (long) j + n > length(t)) return finding(2);
+        int[] items = new int[n];
+        for (int at = 0; at < n; at++) items[at] = item(s, i + at);
+        for (int at = 0; at < n; at++) put(t, form(t), j + at, items[at]);
         return 1;
     }
 
