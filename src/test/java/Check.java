@@ -3,15 +3,33 @@ final class Check {
     static final long LONG_BAD = Long.MIN_VALUE + 2;
     private static int calls = 0;
     private static int wrong = 0;
+    private static String about = "";
 
     private Check() {
+    }
+
+    /** What the answers from here on are about; told with each that is not as due. */
+    static void about(String what) {
+        about = what;
+    }
+
+    static int calls() {
+        return calls;
     }
 
     static void due(String call, long got, long want) {
         calls++;
         if (got != want) {
             wrong++;
-            System.out.println(call + " answered " + got + ", due is " + want);
+            System.out.println(about + call + " answered " + got + ", due is " + want);
+        }
+    }
+
+    static void due(String call, String got, String want) {
+        calls++;
+        if (!got.equals(want)) {
+            wrong++;
+            System.out.println(about + call + " answered\n  " + got + ", due is\n  " + want);
         }
     }
 
