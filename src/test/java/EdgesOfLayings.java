@@ -60,9 +60,10 @@ final class EdgesOfLayings {
             // The second ROW is tried ahead of the third.
             least(Check.hall("adcb", "abcd"), 3, 0, "0111");
             ShoesHall x = Check.hall("abc", "abc");
-            Check.due("a rule asked ahead of it", x.rule(1, 2), 1);
-            least(x, 2, 1, "001");
-            Check.due("and behind it", x.rule(1, 2), 1);
+            for (int i = 0; i < 3; i++) {
+                Check.due("a rule, by which c is in front of a", x.rule(1, 2), 1);
+                Check.due("behind it, the ROW of the " + i + "-th", x.least(2, i), i / 2);
+            }
         });
         Edges.of(14, "BAD.", () -> {
             Evening.bad("least(?, -1)", 1, 3, (x, v) -> x.least(v, NONE));

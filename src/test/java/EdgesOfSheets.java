@@ -282,14 +282,14 @@ final class EdgesOfSheets {
         Edges.of(35, "LIFTED for GUESTS by GOINGS (those whose pair was laid) comes to a SHEET from item 0 on, "
                 + "as many as there are items and such GUESTS: how many.", () -> {
             for (int form = 0; form < 3; form++) {
-                // f found no room; d goes ahead of c: by GOINGS, not by letters.
+                // f found no room; c goes ahead of a: by GOINGS, not by letters.
                 for (int n : new int[] {0, 1, 2, 3, 4, 5, 48}) {
-                    ShoesHall x = Check.hall("abcdef", "afbdc");
+                    ShoesHall x = Check.hall("abcdef", "cfabd");
                     x.set(0, 5);
                     x.sheet(1, form, n);
                     for (int i = 0; i < n; i++) x.put(1, form, i, 77);
                     Check.due("how many of " + n, x.write(1), Math.min(n, 4));
-                    int[] lifted = {4, 3, 1, 1, 77};
+                    int[] lifted = {2, 3, 2, 1, 77};
                     for (int i = 0; i < n; i++) Check.due("item " + i, x.get(1, form, i), lifted[Math.min(i, 4)]);
                 }
             }
